@@ -1,0 +1,69 @@
+import java.nio.file.Files;
+import java.nio.file.Path;
+import java.util.List;
+import java.util.regex.Matcher;
+import java.util.regex.Pattern;
+
+/** Rules of LANGUAGE.md that can be seen from the text of the program. */
+public final class LanguageTest {
+    private static boolean wrong;
+
+    public static void main(String[] args) throws Exception {
+        List<String> lines = Files.readAllLines(Path.of("src/main/java/BitRopes.java"));
+        StringBuilder code = new StringBuilder();
+        for (String line : lines) {
+            String bare = line.replaceAll("/\\*\\*.*?\\*/", "").replaceAll("//.*", "").replaceAll("\"[^\"]*\"", "\"\"");
+            code.append(bare).append('\n');
+        }
+        refuse(code, "->|::", "rule 2: no lambda, no method reference");
+        refuse(code, "\\b(Float|Double|double|float)\\b", "rule 3: this program reckons its fractions with whole numbers");
+        refuse(code, "Exact\\b", "rule 4: no Exact");
+        refuse(code, "import (?!java\\.util\\.NoSuchElementException;)", "rule 4: no other import");
+        refuse(code, "\\b(finally|synchronized|assert|try|catch|transient|volatile)\\b", "rule 6");
+        refuse(code, "\\b(hashCode|toString|ordinal|getMessage|System\\.(?!arraycopy))", "rules 4, 6");
+        refuse(code, "\\bstatic (?!final|int|long|boolean|Word|class|void)", "rule 5");
+        refuse(code, "static \\{", "rule 5: no static block");
+        refuse(code, "while \\(true\\)|for \\(;;\\)", "rule 9: loops end");
+        refuse(code, "\"\" \\+|\\+ \"\"", "rule 10: no joining by +");
+        refuse(code, "\\((?:[a-zA-Z\\[\\]]+ [a-zA-Z]+, ){7,}", "rule 11: seven parameters at most");
+        Matcher classes = Pattern.compile("\\b(class|enum|interface|record) [A-Z]").matcher(code);
+        int many = 0;
+        while (classes.find()) {
+            many++;
+        }
+        tell(many > 12, "rule 11: " + many + " classes");
+        methodsAreShort(lines);
+        System.out.println(wrong ? "the language is not kept to" : "the language is kept to");
+        if (wrong) {
+            System.exit(1);
+        }
+    }
+
+    private static void refuse(CharSequence code, String pattern, String rule) {
+        Matcher m = Pattern.compile(pattern).matcher(code);
+        if (m.find()) {
+            tell(true, rule + ": " + m.group());
+        }
+    }
+
+    private static void methodsAreShort(List<String> lines) {
+        int start = 0;
+        for (int k = 0; k < lines.size(); k++) {
+            String line = lines.get(k);
+            if (line.matches("( {4}| {8})[a-zA-Z].*\\) (throws \\w+ )?\\{")) {
+                start = k;
+            }
+            if (line.matches("( {4}| {8})\\}")) {
+                tell(k - start > 60 && lines.get(start).startsWith(line.substring(0, line.length() - 1) + "p"), "rule 11: long: " + lines.get(start));
+            }
+            tell(line.length() > 125, "a line too long: " + (k + 1));
+        }
+    }
+
+    private static void tell(boolean bad, String what) {
+        if (bad) {
+            wrong = true;
+            System.out.println(what);
+        }
+    }
+}
