@@ -284,5 +284,15 @@ public final class BooksAndSentencesTest {
         CHECK.due("46 names", Check.book(x, "put m 0 1;", 1), -6);
         CHECK.due("46 restore(0) again", x.restore(0), true);
         CHECK.same("46 the image is as it was kept", Check.row(x, 0) + Check.row(x, 1), "0110");
+        Check.sentence(x, "size < 3 or like m");
+        x.image(1);
+        Check.sentence(x, "size > 4 and like w");
+        x.restore(1);
+        CHECK.due("46 the SENTENCE with all that it tells", x.said(-1), 2);
+        CHECK.due("46 the SENTENCE with all that it tells", x.said(1), 1);
+        x.put(1, 0, 0);
+        x.put(1, 0, 0);
+        x.put(1, 0, 0);
+        CHECK.due("46 the SENTENCE with all that it tells", x.said(-1), 1);
     }
 }

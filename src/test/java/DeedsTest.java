@@ -110,6 +110,9 @@ public final class DeedsTest {
         CHECK.same("27 the bits", Check.row(x, 0), "1110111100001001");
         CHECK.same("27 leaves", Check.leaves(x, 0), "5 5 6");
         CHECK.due("15 ones of a leaf", x.leaf(0, 1, 1), 3);
+        BitRopes full = full();
+        CHECK.due("27 all", full.turn(0, 0, 600), 0);
+        CHECK.due("27 all", full.bit(0, 0) + full.bit(0, 598), 2);
     }
 
     private static void pasting() {

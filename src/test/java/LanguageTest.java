@@ -47,16 +47,18 @@ public final class LanguageTest {
     }
 
     private static void methodsAreShort(List<String> lines) {
+        String head = null;
         int start = 0;
         for (int k = 0; k < lines.size(); k++) {
             String line = lines.get(k);
+            tell(line.length() > 125, "line " + (k + 1) + " is too long");
             if (line.matches("( {4}| {8})[a-zA-Z].*\\) (throws \\w+ )?\\{")) {
+                head = line;
                 start = k;
+            } else if (head != null && line.equals(head.replaceAll("\\S.*", "}"))) {
+                tell(k - start > 60, "rule 11: a long method: " + head);
+                head = null;
             }
-            if (line.matches("( {4}| {8})\\}")) {
-                tell(k - start > 60 && lines.get(start).startsWith(line.substring(0, line.length() - 1) + "p"), "rule 11: long: " + lines.get(start));
-            }
-            tell(line.length() > 125, "a line too long: " + (k + 1));
         }
     }
 
