@@ -41,6 +41,10 @@ public final class FaceTest {
             wrong |= tell(!Modifier.isStatic(inside.getModifiers()), "not static: " + inside);
             wrong |= tell(Modifier.isPublic(inside.getModifiers()), "public: " + inside);
         }
+        wrong |= hiddenNames(BitRopes.class, due);
+        for (Class<?> inside : BitRopes.class.getDeclaredClasses()) {
+            wrong |= hiddenNames(inside, due);
+        }
         Constructor<?>[] made = BitRopes.class.getDeclaredConstructors();
         wrong |= tell(made.length != 1 || made[0].getParameterCount() != 0, "constructors");
         wrong |= tell(due.size() != 46, "the document's face was not read: " + due.size());
@@ -51,6 +55,17 @@ public final class FaceTest {
         if (wrong) {
             System.exit(1);
         }
+    }
+
+    /** No private method bears the name of a public one. */
+    private static boolean hiddenNames(Class<?> type, Set<String> due) {
+        boolean wrong = false;
+        for (Method method : type.getDeclaredMethods()) {
+            boolean hidden = Modifier.isPrivate(method.getModifiers()) || type != BitRopes.class;
+            boolean named = due.stream().anyMatch(head -> head.contains(" " + method.getName() + "("));
+            wrong |= tell(hidden && named, "the name of a public one: " + method);
+        }
+        return wrong;
     }
 
     private static boolean tell(boolean wrong, String what) {

@@ -11,9 +11,11 @@ final class TapeBoundaries {
         feedBytes();
         feedLimits();
         end();
+        endOfTexts();
         tapesTaken();
         roomStays();
         newRoom();
+        roomsInTurn();
         faults();
         totals();
         manyCalls();
@@ -117,6 +119,39 @@ final class TapeBoundaries {
         Boundary.due("end(1)", x.end(1), false);
     }
 
+    /** Bytes that were cut off are none of what is read next, not even of its last TOKEN. */
+    private static void endOfTexts() {
+        Boundary.says(3, "The tape has its first n bytes alone: true");
+        BitRopes x = new BitRopes();
+        Check.feed(x, "row abc;row d iX");
+        x.end(8);
+        Boundary.due("room", x.room(), 1);
+        Check.feed(x, "row abc ii;row d iX");
+        x.end(10);
+        Boundary.due("room without its ;", x.room(), -11);
+        Check.feed(x, "row abc;row d i;X");
+        x.end(16);
+        Boundary.due("room", x.room(), 2);
+        Check.feed(x, "put d 0 1;put d 0 1;");
+        x.end(19);
+        Boundary.due("book without its ;", x.book(1), -21);
+        Check.feed(x, "put d 0 1;put d 0 1;");
+        x.end(10);
+        Boundary.due("book", x.book(1), -1);
+        Boundary.due("size(1)", x.size(1), 2);
+        Check.feed(x, "size=25");
+        x.end(6);
+        Boundary.due("sentence", x.sentence(), 1);
+        Boundary.due("said(0)", x.said(0), 1);
+        Check.feed(x, new int[] {1, 1, 2, 1});
+        x.end(2);
+        Boundary.due("seek", x.seek(1), 1);
+        Check.feed(x, new int[] {0, 1, 2, 1});
+        x.end(2);
+        Boundary.due("paste", x.paste(1, 2), 0);
+        Boundary.same("ROW", Check.row(x, 1), "1101");
+    }
+
     private static void tapesTaken() {
         Boundary.says(4, "The tape (empty then, with a FAULT, too, here and below) is the ROOM now: how many LINES");
         BitRopes x = new BitRopes();
@@ -191,6 +226,33 @@ final class TapeBoundaries {
         Boundary.due("said(-1)", x.said(-1), -1);
         Boundary.due("total(0)", x.total(0), 0);
         Boundary.due("leaves(0)", x.leaves(0), -1);
+    }
+
+    /** Nothing of a ROOM ahead is left, nor of a text with a FAULT. */
+    private static void roomsInTurn() {
+        Boundary.says(Document.TREES, "A new ROOM: ROWS and LETTERS as told");
+        BitRopes x = new BitRopes();
+        String[] fine = {"leaf 32;row a i;row b ii;row c;row d;letters abc;", "row b ooo;", "leaf 4;row c;letters h;", "", "letters;row d io;"};
+        int[] rows = {4, 1, 1, 0, 1};
+        int[] low = {32, 8, 4, 8, 8};
+        int[] bits = {3, 3, 0, 0, 2};
+        int[] letters = {3, 0, 1, 0, 0};
+        String[] wrong = {"leaf 31;row a i;row b ii;row c;row d;letters abc;X", "leaf 33;", "leaf 30;X", "letters abcdefg;letters", "row z io io X"};
+        for (int k = 0; k < 60; k++) {
+            int now = (3 * k + k / 5) % 5;
+            if (k % 3 != 0) {
+                Boundary.due("room with a FAULT", Check.room(x, wrong[k % 5]) < 0, true);
+            }
+            Boundary.due("room " + fine[now], Check.room(x, fine[now]) >= 0, true);
+            Boundary.due("ROWS", x.total(0), rows[now]);
+            Boundary.due("LOW", x.total(1), low[now]);
+            Boundary.due("bits", x.total(2), bits[now]);
+            Boundary.due("LETTERS", x.letters(), letters[now]);
+            if (k % 20 == 19) {
+                // Not more than 512 calls of one object.
+                x = new BitRopes();
+            }
+        }
     }
 
     private static void faults() {
