@@ -1,3 +1,5 @@
+import java.lang.reflect.Field;
+import java.lang.reflect.Modifier;
 import java.nio.file.Files;
 import java.nio.file.Path;
 import java.util.List;
@@ -33,10 +35,27 @@ public final class LanguageTest {
         }
         tell(many > 12, "rule 11: " + many + " classes");
         methodsAreShort(lines);
+        fieldsAreFew(BitRopes.class);
+        for (Class<?> inside : BitRopes.class.getDeclaredClasses()) {
+            fieldsAreFew(inside);
+        }
         System.out.println(wrong ? "the language is not kept to" : "the language is kept to");
         if (wrong) {
             System.exit(1);
         }
+    }
+
+    private static void fieldsAreFew(Class<?> type) {
+        int many = 0;
+        for (Field field : type.getDeclaredFields()) {
+            boolean fixed = Modifier.isStatic(field.getModifiers());
+            many += fixed ? 0 : 1;
+            tell(fixed && !Modifier.isFinal(field.getModifiers()), "rule 5: " + field);
+            boolean plain = field.getType().isPrimitive() || field.getType() == String.class;
+            tell(fixed && !plain && !type.isEnum(), "rule 5: " + field);
+            tell(!fixed && !plain && type.isEnum(), "rule 2: " + field);
+        }
+        tell(many > 20, "rule 11: " + many + " fields in " + type);
     }
 
     private static void refuse(CharSequence code, String pattern, String rule) {
