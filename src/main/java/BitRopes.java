@@ -269,7 +269,7 @@ public final class BitRopes {
             return NONE;
         }
         foundCount = 0;
-        for (int i = 0; i + n <= row.length; i++) {
+        for (int i = 0; i + n <= row.length && foundCount < MOST_BITS; i++) {
             if (row.hasAt(i, tape, n)) {
                 found[foundCount] = i;
                 foundCount++;
